@@ -342,9 +342,11 @@ public final class RunsTest extends Checks {
         due("12: expected(2) with no run kept", x.expected(2), 0);
     }
 
+    /** Asks bottom on both sides of top, so that neither answer can rest on the other's count. */
     private static void dueFraction(ChancePrograms x, int v, int k, int top, int bottom) {
-        due("13: top(" + v + ", " + k + ")", x.top(v, k), top);
         due("14: bottom(" + v + ", " + k + ")", x.bottom(v, k), bottom);
+        due("13: top(" + v + ", " + k + ")", x.top(v, k), top);
+        due("14: bottom(" + v + ", " + k + ") again", x.bottom(v, k), bottom);
     }
 
     private static void topAndBottom() {
@@ -377,6 +379,9 @@ public final class RunsTest extends Checks {
 
     private static void topOfLargeFractions() {
         ChancePrograms x = new ChancePrograms();
+        x.put(FLIP, 0, 6);
+        due("13: top(0, 1) as the first question", x.top(0, 1), 3);
+        x.clear();
         x.put(LOOP, 0, 3);
         x.put(LOOP, 0, 2);
         x.put(FLIP, 0, 15);
@@ -563,6 +568,8 @@ public final class RunsTest extends Checks {
     }
 
     private static void dueLikely(ChancePrograms x, int greatest, int... outcomes) {
+        int last = outcomes.length - 1;
+        due("19: likely(" + last + ") as the first question", x.likely(last), last < 0 ? -2 : outcomes[last]);
         due("18: greatest()", x.greatest(), greatest);
         for (int j = 0; j < 9; j++) {
             due("19: likely(" + j + ")", x.likely(j), j < outcomes.length ? outcomes[j] : -2);
@@ -574,6 +581,9 @@ public final class RunsTest extends Checks {
 
     private static void greatestAndLikely() {
         ChancePrograms x = new ChancePrograms();
+        x.put(DRAW, 0, 0);
+        due("18: greatest() as the first question", x.greatest(), ALL / 4);
+        x.clear();
         dueLikely(x, ALL);
         x.put(FLIP, 0, 9);
         dueLikely(x, ALL / 16 * 9, 1);
