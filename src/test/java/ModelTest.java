@@ -36,7 +36,10 @@ public final class ModelTest extends Checks {
 
     private void same(String call, long got, long want) {
         calls++;
-        due("series " + series + ", call " + calls + ": " + call, got, want);
+        // What is built at the end of a series may go on for some calls more, and those are free.
+        if (calls <= CALLS) {
+            due("series " + series + ", call " + calls + ": " + call, got, want);
+        }
     }
 
     /** One series in three ends its questions early, so that the programs grow long. */

@@ -28,6 +28,7 @@ public final class QuestionEdgesTest extends Edges {
         followBelowZero();
         followDroppedByKeep();
         followSeventhStep();
+        followSeventhStepWhateverTheOutcomes();
         followWrongOutcome();
         followFirst();
         greatestOfNone();
@@ -598,6 +599,21 @@ public final class QuestionEdgesTest extends Edges {
             x.put(DRAW, 1, 0);
             x.put(DRAW, 2, 0);
         }, x -> x.follow(-1), -3);
+    }
+
+    /** Promise 17: a run is dropped where it comes to the seventh step, so it has no seventh outcome. */
+    private static void followSeventhStepWhateverTheOutcomes() {
+        for (int p = 0; p <= 16; p += 8) {
+            ChancePrograms x = new ChancePrograms();
+            steps(x, DRAW, 6);
+            x.put(FLIP, 0, p);
+            for (int seventh = 0; seventh < 4; seventh++) {
+                for (int six = 0; six < 4096; six += 117) {
+                    int outcomes = six + (seventh << 12);
+                    due("17: seventh step with p " + p + ", outcomes " + outcomes, x.follow(outcomes), -3);
+                }
+            }
+        }
     }
 
     /** Promise 17: "-4 when an outcome would have weight 0, or is 2 or 3 at a FLIP" */
